@@ -249,8 +249,9 @@ public final class BooleanGroebner {
     }
 
     private int zeroSet(int k) {
+        int count = generatorCount[k];
         int zeroPoints = -1;
-        for (int i = 0; i < generatorCount[k]; i++) {
+        for (int i = 0; i < count; i++) {
             zeroPoints &= ~exchange(generatorList[k * CAPACITY + i]);
         }
         return zeroPoints;

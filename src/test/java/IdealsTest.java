@@ -82,7 +82,7 @@ public final class IdealsTest {
             for (int i = 0; i < 5; i++) {
                 Due.is("basis(0, " + i + ")", x.basis(0, i), due[i]);
             }
-            int[] bad = {-1, 5, 6, 31, 32, Due.LOWEST, Due.HIGHEST};
+            int[] bad = {-1, -2, -32, 5, 6, 31, 32, Due.LOWEST, Due.HIGHEST};
             for (int i : bad) {
                 Due.is("basis(0, " + i + ")", x.basis(0, i), 0);
             }
