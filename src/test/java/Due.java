@@ -2,7 +2,7 @@
 final class Due {
     static final int LOWEST = Integer.MIN_VALUE;
     static final int HIGHEST = Integer.MAX_VALUE;
-    static final int[] BAD_IDEALS = {-1, 2, 3, 32, LOWEST, HIGHEST};
+    static final int[] BAD_IDEALS = {-1, -2, 2, 3, 32, LOWEST, LOWEST + 1, HIGHEST - 1, HIGHEST};
 
     private static int wrong = 0;
 
