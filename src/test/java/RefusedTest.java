@@ -125,12 +125,24 @@ public final class RefusedTest {
     private static void asked(String what, Call question) {
         for (int[] counts : Picture.FILLINGS) {
             for (int kind = 0; kind < 2; kind++) {
-                BooleanGroebner x = Picture.filled(counts, kind);
-                int first = question.on(x);
-                Due.is(what + " asked again", question.on(x), first);
-                Picture.same(what, x, Picture.filled(counts, kind));
+                askedOnce(what, question, counts, kind);
+                askedTwice(what, question, counts, kind);
             }
         }
+    }
+
+    // A change that the next asking undoes would not be seen after two.
+    private static void askedOnce(String what, Call question, int[] counts, int kind) {
+        BooleanGroebner x = Picture.filled(counts, kind);
+        question.on(x);
+        Picture.same(what + " asked once", x, Picture.filled(counts, kind));
+    }
+
+    private static void askedTwice(String what, Call question, int[] counts, int kind) {
+        BooleanGroebner x = Picture.filled(counts, kind);
+        int first = question.on(x);
+        Due.is(what + " asked again", question.on(x), first);
+        Picture.same(what + " asked twice", x, Picture.filled(counts, kind));
     }
 
     private static void manyRefusalsInOneObject() {
