@@ -1,4 +1,4 @@
-/** Promises 10 to 19, and from 20 the basis: each sentence that names a limit, with its own test. */
+/** Promises 10 to 16: each sentence that names a limit, with its own test. */
 public final class IdealBoundsTest {
     private static final int[] EDGES = {
         Due.LOWEST, Due.LOWEST + 1, -2, -1, 0, 1, 2, Due.HIGHEST - 1, Due.HIGHEST
